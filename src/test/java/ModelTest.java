@@ -4,7 +4,7 @@ import java.util.Random;
 
 /** Long runs of calls, made up by a source of numbers with a fixed start: HoleHouse and the Model answer the same. */
 public final class ModelTest {
-    private static final int RUNS = 150;
+    private static final int RUNS = 60;
     private static final int CALLS = 500;
 
     private final Check check;
