@@ -1,11 +1,26 @@
-/** Counts and prints the answers that are not as due. */
+/** Counts and prints the answers that are not as due, each with the sentence of the document that asks for it. */
 final class Check {
+    private final String head;
+    private String sentence = "";
     private int wrong = 0;
+
+    Check() {
+        this("");
+    }
+
+    /** The head in the document under which the sentences stand. */
+    Check(String head) {
+        this.head = head;
+    }
+
+    /** The words of the document that the checks from here on are about; DocumentTest looks them up. */
+    void sentence(String... words) {
+        sentence = String.join(" ", words);
+    }
 
     void due(String call, long got, long want) {
         if (got != want) {
-            wrong++;
-            System.out.println(call + " answered " + got + ", due is " + want);
+            tell(call + " answered " + got + ", due is " + want);
         }
     }
 
@@ -15,9 +30,31 @@ final class Check {
 
     void hold(String what, boolean holds) {
         if (!holds) {
-            wrong++;
-            System.out.println("does not hold: " + what);
+            tell("does not hold: " + what);
         }
+    }
+
+    /**
+     * N, the number of FACES and the FACES that the text names are as the text tells; since all sets within a FACE are
+     * FACES, there is no room for another one. Few calls, so that one object can be looked at often.
+     */
+    void complex(String when, HoleHouse house, String text) {
+        due(when + ": look(0)", house.look(0), Complexes.points(text));
+        due(when + ": look(1)", house.look(1), Long.bitCount(Complexes.family(text)));
+        for (int set : Complexes.named(text)) {
+            due(when + ": has(" + set + ")", house.has(set), 1);
+        }
+    }
+
+    /** As complex(), but each set by itself, and the first that can't be. */
+    void everySet(String when, HoleHouse house, String text) {
+        int sets = 1 << Complexes.points(text);
+        long family = Complexes.family(text);
+        complex(when, house, text);
+        for (int set = 0; set < sets; set++) {
+            due(when + ": has(" + set + ")", house.has(set), family >>> set & 1L);
+        }
+        due(when + ": has(" + sets + ")", house.has(sets), HoleHouse.NONE);
     }
 
     int wrong() {
@@ -29,5 +66,10 @@ final class Check {
         if (wrong != 0) {
             System.exit(1);
         }
+    }
+
+    private void tell(String what) {
+        wrong++;
+        System.out.println(head + (sentence.isEmpty() ? "" : " '" + sentence + "': ") + what);
     }
 }

@@ -4,8 +4,11 @@ import java.util.Random;
 
 /** Long runs of calls, made up by a source of numbers with a fixed start: HoleHouse and the Model answer the same. */
 public final class ModelTest {
-    private static final int RUNS = 60;
-    private static final int CALLS = 500;
+    private static final int RUNS = 100;
+    /** So many calls of an object are promised. */
+    private static final int CALLS = 512;
+    /** No step of a run makes more calls. */
+    private static final int LONGEST_STEP = 20;
 
     private final Check check;
     private final Random random;
@@ -30,8 +33,10 @@ public final class ModelTest {
 
     private void run() {
         boolean deep = random.nextInt(4) == 0;
-        for (int i = 0; i < CALLS && check.wrong() == 0; i++) {
-            if (random.nextInt(12) == 0) {
+        while (calls.size() < CALLS && check.wrong() == 0) {
+            if (calls.size() > CALLS - LONGEST_STEP) {
+                anyCall();
+            } else if (random.nextInt(12) == 0) {
                 build();
             } else if (random.nextInt(6) == 0) {
                 text();
@@ -41,6 +46,7 @@ public final class ModelTest {
                 anyCall();
             }
         }
+        check.hold("a run has " + CALLS + " calls, not " + calls.size(), check.wrong() != 0 || calls.size() == CALLS);
         if (check.wrong() != 0) {
             System.out.println("the run of calls and what was due: " + calls);
         }

@@ -43,7 +43,7 @@ public final class RoomTest {
     }
 
     private void call(HoleHouse x) {
-        switch (random.nextInt(28)) {
+        switch (random.nextInt(29)) {
             case 0: add(x.points(random.nextBoolean() ? 6 : any())); break;
             case 1: case 2: case 3: add(x.face(any())); break;
             case 4: add(x.cut(any())); break;
@@ -65,9 +65,10 @@ public final class RoomTest {
             case 21: add(x.alike(any(), any())); break;
             case 22: add(x.feed(0x363A2030, 0x31322034, any() & 0x3F3F3F3F, any(), any())); break;
             case 23: add(x.end(any())); break;
-            case 24: add(x.read()); add(x.fault()); break;
+            case 24: add(x.read()); break;
             case 25: add(x.write()); break;
             case 26: add(x.out(any())); break;
+            case 27: add(x.fault()); break;
             default: add(x.take()); break;
         }
     }
