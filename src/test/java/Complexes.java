@@ -83,6 +83,49 @@ final class Complexes {
         return text.toString();
     }
 
+    /** Every complex of n points; of five there are 7580, so not for six. */
+    static List<String> all(int n) {
+        List<String> texts = new ArrayList<>();
+        for (long family : families(n)) {
+            if (family != 0L) {
+                texts.add(text(n, family));
+            }
+        }
+        return texts;
+    }
+
+    /** The FACES without the highest point, and those with it: without it they must be FACES, too. */
+    private static List<Long> families(int n) {
+        if (n == 0) {
+            return List.of(0L, 1L);
+        }
+        List<Long> found = new ArrayList<>();
+        List<Long> smaller = families(n - 1);
+        for (long without : smaller) {
+            for (long with : smaller) {
+                if ((with & ~without) == 0L) {
+                    found.add(without | with << (1 << n - 1));
+                }
+            }
+        }
+        return found;
+    }
+
+    private static String text(int n, long family) {
+        StringBuilder text = new StringBuilder(n + ":");
+        for (int set = 1; set < 1 << n; set++) {
+            boolean greatest = (family >>> set & 1L) == 1L;
+            for (int point = 0; point < n; point++) {
+                int more = set | 1 << point;
+                greatest &= more == set || (family >>> more & 1L) == 0L;
+            }
+            if (greatest) {
+                text.append(" ").append(digits(set));
+            }
+        }
+        return text.toString();
+    }
+
     static String digits(int set) {
         StringBuilder text = new StringBuilder();
         for (int point = 0; point < 6; point++) {

@@ -8,6 +8,7 @@ public final class Promise12Test {
         ofParts();
         ofTheEmptyPart();
         beyondTheDimension();
+        ofTheComplexAsItIs();
         whatCannotBe();
         check.finish();
     }
@@ -66,6 +67,25 @@ public final class Promise12Test {
             check.due("holes(all, n - 1) of " + n, x.holes((1 << n) - 1, n - 1), 0);
             check.due("holes(all, n - 2) of " + n, x.holes((1 << n) - 1, n - 2), 1);
         }
+    }
+
+    private static void ofTheComplexAsItIs() {
+        HoleHouse x = Complexes.built(Complexes.SQUARE);
+        check.due("holes(15, 1)", x.holes(15, 1), 1);
+        x.cut(3);
+        check.due("holes(15, 1) when the ring is cut", x.holes(15, 1), 0);
+        x.undo();
+        check.due("holes(15, 1) when the cut is taken back", x.holes(15, 1), 1);
+        x.dual();
+        check.due("holes(15, 1) of the dual", x.holes(15, 1), 0);
+        check.due("holes(15, 0) of the dual", x.holes(15, 0), 1);
+        x.link(1);
+        check.due("holes(7, 0) of the link", x.holes(7, 0), 0);
+        check.due("holes(7, -1) of the link", x.holes(7, -1), 0);
+        x.points(4);
+        check.due("holes(15, -1) of no FACES", x.holes(15, -1), 1);
+        x.points(5);
+        check.due("holes(31, -1) of no FACES", x.holes(31, -1), 1);
     }
 
     private static void whatCannotBe() {

@@ -7,6 +7,7 @@ public final class Promise13Test {
         inEachDegree();
         ofAllButTheGreatest();
         ofNoPointsAndOfAll();
+        ofTheComplexAsItIs();
         whatCannotBe();
         check.finish();
     }
@@ -46,6 +47,20 @@ public final class Promise13Test {
         for (int n = 1; n <= 6; n++) {
             spaces(Complexes.full(n), new int[] {1}, new int[] {1});
         }
+    }
+
+    private static void ofTheComplexAsItIs() {
+        HoleHouse x = Complexes.built(Complexes.SQUARE);
+        check.due("space(6, 0)", x.space(6, 0), 1);
+        x.cut(3);
+        check.due("space(6, 0) when the ring is cut", x.space(6, 0), 0);
+        check.due("space(2, 1) when the ring is cut", x.space(2, 1), 0);
+        x.undo();
+        check.due("space(6, 0) when the cut is taken back", x.space(6, 0), 1);
+        x.points(3);
+        check.due("space(0, 1) of no FACES", x.space(0, 1), 8);
+        x.points(2);
+        check.due("space(0, 1) of no FACES", x.space(0, 1), 4);
     }
 
     private static void whatCannotBe() {

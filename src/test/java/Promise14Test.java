@@ -9,6 +9,7 @@ public final class Promise14Test {
         ofAllButTheGreatest();
         theyMakeTheRoundSpace();
         beyondThePoints();
+        ofTheComplexAsItIs();
         whatCannotBe();
         check.finish();
     }
@@ -78,6 +79,20 @@ public final class Promise14Test {
                 check.due("tower(1, " + j + ") of " + n, x.tower(1, j), 0);
             }
         }
+    }
+
+    private static void ofTheComplexAsItIs() {
+        HoleHouse x = Complexes.built(Complexes.SQUARE);
+        check.due("tower(2, 4)", x.tower(2, 4), 1);
+        x.cut(3);
+        check.due("tower(2, 4) when the ring is cut", x.tower(2, 4), 0);
+        check.due("tower(1, 2) when the ring is cut", x.tower(1, 2), 3);
+        x.undo();
+        check.due("tower(2, 4) when the cut is taken back", x.tower(2, 4), 1);
+        x.points(3);
+        check.due("tower(1, 1) of no FACES", x.tower(1, 1), 3);
+        x.points(2);
+        check.due("tower(1, 1) of no FACES", x.tower(1, 1), 2);
     }
 
     private static void whatCannotBe() {

@@ -8,7 +8,9 @@ public final class Promise15Test {
     public static void main(String[] args) {
         ofTwoSets();
         inEachDimension();
+        ofLargerMarks();
         highDimensionsAreNothing();
+        ofTheComplexAsItIs();
         aAndBOnlyFromZeroToFive();
         setsOfPoints();
         notEmpty();
@@ -56,6 +58,27 @@ public final class Promise15Test {
         rank(Complexes.OCTAHEDRON, 3, 60, 0, 0, 0);
         rank(Complexes.OCTAHEDRON, 3, 12, 0, 0, 1);
         rank(Complexes.OCTAHEDRON, 5, 10, 0, 0, 0);
+    }
+
+    /** Marks that are 1 on all of an edge's points are closed, and those that are 1 on one of them are not. */
+    private static void ofLargerMarks() {
+        rank("5: 013 014 23 24", 7, 24, 0, 0, 1);
+        rank("5: 034 134 23 24", 7, 24, 0, 0, 0);
+        rank("6: 013 23 014 24 015 25", 7, 56, 0, 0, 2);
+        rank("6: 0134 234 015 25", 7, 56, 0, 0, 1);
+        rank("6: 0134 234 015 25", 7, 40, 0, 0, 1);
+        rank("6: 0134 234 015 25", 7, 24, 0, 0, 0);
+    }
+
+    private static void ofTheComplexAsItIs() {
+        HoleHouse x = Complexes.built(Complexes.SQUARE);
+        check.due("rank(5, 10, 0, 0)", x.rank(5, 10, 0, 0), 1);
+        x.cut(3);
+        check.due("rank(5, 10, 0, 0) when the ring is cut", x.rank(5, 10, 0, 0), 0);
+        x.undo();
+        check.due("rank(5, 10, 0, 0) when the cut is taken back", x.rank(5, 10, 0, 0), 1);
+        x.face(15);
+        check.due("rank(5, 10, 0, 0) when it is full", x.rank(5, 10, 0, 0), 0);
     }
 
     private static void highDimensionsAreNothing() {

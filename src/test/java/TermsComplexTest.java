@@ -1,12 +1,14 @@
+import java.util.ArrayList;
 import java.util.HashSet;
+import java.util.List;
 import java.util.Set;
 
 /** The document's Terms, first part: FACES, MISSING, FLAG, PARTS, HOLES, the two SPACES and TOWERS. */
 public final class TermsComplexTest {
     private static final int NONE = HoleHouse.NONE;
-    private static final String[] EXAMPLES = {"1:", "1: 0", "2: 1", "4: 01 2", Complexes.SQUARE, Complexes.PENTAGON,
-        "5: 012 23 4", "5: 013 123 023 014 124 024", Complexes.hollow(5), Complexes.full(5), Complexes.skeleton(5, 2),
-        Complexes.BIPARTITE, Complexes.OCTAHEDRON};
+    private static final String[] LARGER = {Complexes.PENTAGON, "5: 012 23 4", "5: 013 123 023 014 124 024", Complexes.hollow(5),
+        Complexes.full(5), Complexes.skeleton(5, 2), Complexes.BIPARTITE, Complexes.OCTAHEDRON};
+    private static final List<String> EXAMPLES = examples();
     private static final Check check = new Check("Terms");
 
     public static void main(String[] args) {
@@ -24,6 +26,16 @@ public final class TermsComplexTest {
         spacesAndTowers();
         none();
         check.finish();
+    }
+
+    /** All complexes of up to four points, and some larger ones. */
+    private static List<String> examples() {
+        List<String> texts = new ArrayList<>();
+        for (int n = 1; n <= 4; n++) {
+            texts.addAll(Complexes.all(n));
+        }
+        texts.addAll(List.of(LARGER));
+        return texts;
     }
 
     private static void points() {

@@ -6,9 +6,12 @@ import java.util.Set;
 /** The document's Terms, second part: MARKS, PRODUCTS, RANKS, PLAIN and THE FIRST, gone through one by one. */
 public final class TermsProductsTest {
     private static final int NONE = HoleHouse.NONE;
-    private static final String[] EXAMPLES = {"1:", "1: 0", "2: 0 1", "3: 01 2", Complexes.SQUARE, "4: 01 12 23",
-        "4: 01 03 2", Complexes.full(4), Complexes.hollow(4), Complexes.PENTAGON, "5: 02 03 13 14 24",
-        "5: 03 04 13 14 23 24", "5: 02 03 14 24 34", "5: 013 123 023 014 124 024", "5: 012 123 014 024 134 234"};
+    /** Here closed marks are not 1 on one FACE alone, and others are not closed. */
+    private static final String[] LARGER = {Complexes.PENTAGON, "5: 02 03 13 14 24", "5: 03 04 13 14 23 24",
+        "5: 02 03 14 24 34", "5: 013 123 023 014 124 024", "5: 012 123 014 024 134 234", "5: 013 014 23 24",
+        "5: 034 134 23 24", "5: 03 04 123 124"};
+    private static final int EACH = 60;
+    private static final List<String> EXAMPLES = examples();
     private static final Check check = new Check("Terms");
 
     public static void main(String[] args) {
@@ -18,6 +21,20 @@ public final class TermsProductsTest {
         thenByL();
         jBelowL();
         check.finish();
+    }
+
+    /** All complexes of up to four points, and some larger ones. */
+    private static List<String> examples() {
+        List<String> texts = new ArrayList<>();
+        for (int n = 1; n <= 4; n++) {
+            texts.addAll(Complexes.all(n));
+        }
+        texts.addAll(List.of(LARGER));
+        List<String> ofFive = Complexes.all(5);
+        for (int i = 0; i < ofFive.size(); i += EACH) {
+            texts.add(ofFive.get(i));
+        }
+        return texts;
     }
 
     /** Every RANK of every example by the words of the document alone. */
