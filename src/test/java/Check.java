@@ -57,6 +57,14 @@ final class Check {
         due(when + ": has(" + sets + ")", house.has(sets), HoleHouse.NONE);
     }
 
+    /** The complex that the text tells is written as is wanted. */
+    void written(String text, String want) {
+        HoleHouse house = Complexes.built(text);
+        due(text + " write()", house.write(), want.length());
+        String got = Tapes.written(house);
+        hold(text + " is written '" + want + "', not '" + got + "'", got.equals(want));
+    }
+
     int wrong() {
         return wrong;
     }

@@ -94,6 +94,32 @@ final class Complexes {
         return texts;
     }
 
+    /** Every complex of up to four points, and the given ones. */
+    static List<String> smallAnd(String... larger) {
+        List<String> texts = new ArrayList<>();
+        for (int n = 1; n <= 4; n++) {
+            texts.addAll(all(n));
+        }
+        texts.addAll(List.of(larger));
+        return texts;
+    }
+
+    /** The FACES of dimension k within the part. */
+    static List<Integer> facesOf(long family, int part, int k) {
+        List<Integer> found = new ArrayList<>();
+        for (int set = 0; set < 64; set++) {
+            if ((set & ~part) == 0 && (family >>> set & 1L) == 1L && Integer.bitCount(set) == k + 1) {
+                found.add(set);
+            }
+        }
+        return found;
+    }
+
+    /** How many independent ones there are, if all their sums are so many. */
+    static int independent(int sums) {
+        return Integer.numberOfTrailingZeros(sums);
+    }
+
     /** The FACES without the highest point, and those with it: without it they must be FACES, too. */
     private static List<Long> families(int n) {
         if (n == 0) {

@@ -10,37 +10,30 @@ public final class Promise22Test {
         check.finish();
     }
 
-    private static void written(String text, String want) {
-        HoleHouse x = Complexes.built(text);
-        check.due(text + " write()", x.write(), want.length());
-        String got = Tapes.written(x);
-        check.hold(text + " is written '" + want + "', not '" + got + "'", got.equals(want));
-    }
-
     private static void howManyBytes() {
         check.sentence("The COMPLEX is WRITTEN: how many bytes;");
-        written("3: 2 0 1", "3: 0 1 2");
-        written("6: 45 0123 0", "6: 0123 45");
-        written("4: 3 012 01", "4: 012 3");
-        written("5: 01 12 23 34 04", Complexes.PENTAGON);
+        check.written("3: 2 0 1", "3: 0 1 2");
+        check.written("6: 45 0123 0", "6: 0123 45");
+        check.written("4: 3 012 01", "4: 012 3");
+        check.written("5: 01 12 23 34 04", Complexes.PENTAGON);
         for (String text : new String[] {"2: 0", "2: 1", Complexes.SQUARE, Complexes.OCTAHEDRON, Complexes.BIPARTITE,
             Complexes.PLANE, Complexes.HOLLOW}) {
-            written(text, text);
+            check.written(text, text);
         }
     }
 
     private static void shortestAndLongest() {
         for (int n = 1; n <= 6; n++) {
-            written(Complexes.empty(n), n + ":");
-            written(Complexes.full(n), n + ": " + "012345".substring(0, n));
-            written(Complexes.hollow(n), Complexes.hollow(n));
+            check.written(Complexes.empty(n), n + ":");
+            check.written(Complexes.full(n), n + ": " + "012345".substring(0, n));
+            check.written(Complexes.hollow(n), Complexes.hollow(n));
         }
         HoleHouse longest = Complexes.built(Complexes.skeleton(6, 3));
         check.due("write() of twenty FACES", longest.write(), 82);
         check.due("out(81)", longest.out(81), '5');
         check.due("out(82)", longest.out(82), HoleHouse.NONE);
-        written(Complexes.skeleton(6, 3), Complexes.skeleton(6, 3));
-        written(Complexes.skeleton(6, 4), Complexes.skeleton(6, 4));
+        check.written(Complexes.skeleton(6, 3), Complexes.skeleton(6, 3));
+        check.written(Complexes.skeleton(6, 4), Complexes.skeleton(6, 4));
     }
 
     private static void outHasThem() {

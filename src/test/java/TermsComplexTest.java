@@ -1,4 +1,3 @@
-import java.util.ArrayList;
 import java.util.HashSet;
 import java.util.List;
 import java.util.Set;
@@ -6,9 +5,9 @@ import java.util.Set;
 /** The document's Terms, first part: FACES, MISSING, FLAG, PARTS, HOLES, the two SPACES and TOWERS. */
 public final class TermsComplexTest {
     private static final int NONE = HoleHouse.NONE;
-    private static final String[] LARGER = {Complexes.PENTAGON, "5: 012 23 4", "5: 013 123 023 014 124 024", Complexes.hollow(5),
-        Complexes.full(5), Complexes.skeleton(5, 2), Complexes.BIPARTITE, Complexes.OCTAHEDRON};
-    private static final List<String> EXAMPLES = examples();
+    private static final List<String> EXAMPLES = Complexes.smallAnd(Complexes.PENTAGON, "5: 012 23 4",
+        "5: 013 123 023 014 124 024", Complexes.hollow(5), Complexes.full(5), Complexes.skeleton(5, 2),
+        Complexes.BIPARTITE, Complexes.OCTAHEDRON);
     private static final Check check = new Check("Terms");
 
     public static void main(String[] args) {
@@ -26,16 +25,6 @@ public final class TermsComplexTest {
         spacesAndTowers();
         none();
         check.finish();
-    }
-
-    /** All complexes of up to four points, and some larger ones. */
-    private static List<String> examples() {
-        List<String> texts = new ArrayList<>();
-        for (int n = 1; n <= 4; n++) {
-            texts.addAll(Complexes.all(n));
-        }
-        texts.addAll(List.of(LARGER));
-        return texts;
     }
 
     private static void points() {
@@ -193,32 +182,20 @@ public final class TermsComplexTest {
             for (int part : new int[] {all, all & 27, all & 7, all & 21}) {
                 for (int k = -1; k <= 5; k++) {
                     int without = withoutBorder(family, part, k);
-                    int want = without - exponent(borders(family, part, k + 1).size());
+                    int want = without - Complexes.independent(borders(family, part, k + 1).size());
                     check.due(text + " holes(" + part + ", " + k + ")", x.holes(part, k), want);
                 }
             }
         }
     }
 
-    private static int[] facesOf(long family, int part, int k) {
-        int[] found = new int[64];
-        int count = 0;
-        for (int set = 0; set < 64; set++) {
-            if ((set & ~part) == 0 && (family >>> set & 1L) == 1L && Integer.bitCount(set) == k + 1) {
-                found[count] = set;
-                count++;
-            }
-        }
-        return java.util.Arrays.copyOf(found, count);
-    }
-
     /** What the FACES of the CHAIN have as BORDER, those left out that come twice. */
-    private static long border(int[] faces, int chain) {
+    private static long border(List<Integer> faces, int chain) {
         long border = 0L;
-        for (int i = 0; i < faces.length; i++) {
+        for (int i = 0; i < faces.size(); i++) {
             for (int p = 0; p < 6 && (chain >> i & 1) == 1; p++) {
-                if ((faces[i] >> p & 1) == 1) {
-                    border ^= 1L << (faces[i] & ~(1 << p));
+                if ((faces.get(i) >> p & 1) == 1) {
+                    border ^= 1L << (faces.get(i) & ~(1 << p));
                 }
             }
         }
@@ -226,25 +203,21 @@ public final class TermsComplexTest {
     }
 
     private static Set<Long> borders(long family, int part, int k) {
-        int[] faces = facesOf(family, part, k);
+        List<Integer> faces = Complexes.facesOf(family, part, k);
         Set<Long> found = new HashSet<>();
-        for (int chain = 0; chain < 1 << faces.length; chain++) {
+        for (int chain = 0; chain < 1 << faces.size(); chain++) {
             found.add(border(faces, chain));
         }
         return found;
     }
 
     private static int withoutBorder(long family, int part, int k) {
-        int[] faces = facesOf(family, part, k);
+        List<Integer> faces = Complexes.facesOf(family, part, k);
         int count = 0;
-        for (int chain = 0; chain < 1 << faces.length; chain++) {
+        for (int chain = 0; chain < 1 << faces.size(); chain++) {
             count += border(faces, chain) == 0L ? 1 : 0;
         }
-        return exponent(count);
-    }
-
-    private static int exponent(int power) {
-        return Integer.numberOfTrailingZeros(power);
+        return Complexes.independent(count);
     }
 
     private static void theEmptyPart() {

@@ -23,13 +23,9 @@ public final class TermsProductsTest {
         check.finish();
     }
 
-    /** All complexes of up to four points, and some larger ones. */
+    /** With some of those of five points, too. */
     private static List<String> examples() {
-        List<String> texts = new ArrayList<>();
-        for (int n = 1; n <= 4; n++) {
-            texts.addAll(Complexes.all(n));
-        }
-        texts.addAll(List.of(LARGER));
+        List<String> texts = Complexes.smallAnd(LARGER);
         List<String> ofFive = Complexes.all(5);
         for (int i = 0; i < ofFive.size(); i += EACH) {
             texts.add(ofFive.get(i));
@@ -65,20 +61,10 @@ public final class TermsProductsTest {
         }
     }
 
-    private static List<Integer> facesOf(long family, int part, int k) {
-        List<Integer> found = new ArrayList<>();
-        for (int set = 0; set < 64; set++) {
-            if ((set & ~part) == 0 && (family >>> set & 1L) == 1L && Integer.bitCount(set) == k + 1) {
-                found.add(set);
-            }
-        }
-        return found;
-    }
-
     /** All MARKS, each as the FACES on which it is 1. */
     private static List<Long> marks(long family, int part, int a) {
         List<Long> found = new ArrayList<>(List.of(0L));
-        for (int face : facesOf(family, part, a)) {
+        for (int face : Complexes.facesOf(family, part, a)) {
             for (int i = found.size() - 1; i >= 0; i--) {
                 found.add(found.get(i) | 1L << face);
             }
@@ -88,7 +74,7 @@ public final class TermsProductsTest {
 
     private static long rise(long family, int part, int a, long mark) {
         long rise = 0L;
-        for (int face : facesOf(family, part, a + 1)) {
+        for (int face : Complexes.facesOf(family, part, a + 1)) {
             int sum = 0;
             for (int p = 0; p < 6; p++) {
                 if ((face >> p & 1) == 1) {
@@ -111,7 +97,7 @@ public final class TermsProductsTest {
     }
 
     private static int rank(long family, int j, int l, int a, int b) {
-        List<Integer> faces = facesOf(family, j | l, a + b + 1);
+        List<Integer> faces = Complexes.facesOf(family, j | l, a + b + 1);
         if (faces.isEmpty()) {
             return 0;
         }
@@ -119,14 +105,14 @@ public final class TermsProductsTest {
         for (long mark : marks(family, j | l, a + b)) {
             sums.add(rise(family, j | l, a + b, mark));
         }
-        int rises = exponent(sums.size());
+        int rises = Complexes.independent(sums.size());
         List<Long> ofL = closed(family, l, b);
         for (long one : closed(family, j, a)) {
             for (long other : ofL) {
                 addSums(sums, product(faces, j, one, l, other));
             }
         }
-        return exponent(sums.size()) - rises;
+        return Complexes.independent(sums.size()) - rises;
     }
 
     private static long product(List<Integer> faces, int j, long one, int l, long other) {
@@ -145,10 +131,6 @@ public final class TermsProductsTest {
                 sums.add(sum ^ more);
             }
         }
-    }
-
-    private static int exponent(int power) {
-        return Integer.numberOfTrailingZeros(power);
     }
 
     private static void plain() {

@@ -195,29 +195,23 @@ public final class TermsTextsTest {
         }
     }
 
-    private static void writes(String text, String want) {
-        HoleHouse x = Complexes.built(text);
-        String got = Tapes.written(x);
-        check.hold(text + " is written '" + want + "', not '" + got + "'", got.equals(want));
-    }
-
     private static void written() {
         check.sentence("WRITTEN it has N, :, then, each with a blank ahead, the GREATEST FACES");
-        writes("3: 0", "3: 0");
-        writes("6: 012 34", "6: 012 34");
+        check.written("3: 0", "3: 0");
+        check.written("6: 012 34", "6: 012 34");
         check.sentence("(within no other one; not the empty one),");
-        writes("5:", "5:");
-        writes("5: 0 1 01 012 02 12 3", "5: 012 3");
-        writes("5: 0123 34", "5: 0123 34");
-        writes("6: 0 01 012 0123 01234 012345", "6: 012345");
+        check.written("5:", "5:");
+        check.written("5: 0 1 01 012 02 12 3", "5: 012 3");
+        check.written("5: 0123 34", "5: 0123 34");
+        check.written("6: 0 01 012 0123 01234 012345", "6: 012345");
     }
 
     private static void writtenByNumbers() {
         check.sentence("by their numbers, the lesser first.");
-        writes("5: 34 12 0", "5: 0 12 34");
-        writes("4: 3 012", "4: 012 3");
-        writes("6: 5 04 13 012", "6: 012 13 04 5");
-        writes("6: 45 35 25 15 05 34 24 14 04 23 13 03 12 02 01",
+        check.written("5: 34 12 0", "5: 0 12 34");
+        check.written("4: 3 012", "4: 012 3");
+        check.written("6: 5 04 13 012", "6: 012 13 04 5");
+        check.written("6: 45 35 25 15 05 34 24 14 04 23 13 03 12 02 01",
             "6: 01 02 12 03 13 23 04 14 24 34 05 15 25 35 45");
     }
 
