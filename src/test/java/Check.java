@@ -78,6 +78,7 @@ final class Check {
 
     private void tell(String what) {
         wrong++;
-        System.out.println(head + (sentence.isEmpty() ? "" : " '" + sentence + "': ") + what);
+        String where = (head + (sentence.isEmpty() ? "" : " '" + sentence + "'")).trim();
+        System.out.println(where.isEmpty() ? what : where + ": " + what);
     }
 }

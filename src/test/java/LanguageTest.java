@@ -16,14 +16,9 @@ import java.util.stream.Collectors;
 
 /** The public face, and those rules of LANGUAGE.md that can be looked up in the class and in its text. */
 public final class LanguageTest {
+    private static final Path DOCUMENT = Path.of("../shared/DOC.md");
     private static final Path SOURCE = Path.of("src/main/java/HoleHouse.java");
-
-    private static final Set<String> FACE = Set.of(
-        "boolean points(int)", "int face(int)", "int cut(int)", "int link(int)", "boolean dual()", "boolean undo()",
-        "int look(int)", "int has(int)", "int faces(int)", "int missing(int)", "int holes(int,int)",
-        "int space(int,int)", "int tower(int,int)", "int rank(int,int,int,int)", "int first(int)",
-        "int alike(int,int)", "int feed(int,int,int,int,int)", "boolean end(int)", "int read()", "int fault()",
-        "int write()", "int out(int)", "int take()");
+    private static final int LONGEST_METHOD = 60;
 
     private static final List<String> FORBIDDEN = List.of(
         "\\bthrow\\b", "\\btry\\b", "\\bcatch\\b", "\\bsynchronized\\b", "\\bassert\\b", "->", "::", "\\bimport\\b",
@@ -41,6 +36,7 @@ public final class LanguageTest {
         statics();
         text();
         rowsOnlyInConstructors();
+        methodsAreShort();
         check.finish();
     }
 
@@ -49,7 +45,19 @@ public final class LanguageTest {
             + Arrays.stream(method.getParameterTypes()).map(Class::getName).collect(Collectors.joining(",")) + ")";
     }
 
-    private static void face() {
+    /** The members that the document's public face has, in Java's own words. */
+    private static Set<String> promised() throws IOException {
+        String document = Files.readString(DOCUMENT);
+        String face = document.substring(Math.max(document.indexOf("## The public face"), 0));
+        Matcher lines = Pattern.compile("(?m)^    public ([^;]+);$").matcher(face);
+        Set<String> members = new TreeSet<>();
+        while (lines.find()) {
+            members.add(lines.group(1).replaceAll("\\bint \\w+(?=[,)])", "int").replace(", ", ","));
+        }
+        return members;
+    }
+
+    private static void face() throws IOException {
         check.hold("public and final", HoleHouse.class.getModifiers() == (Modifier.PUBLIC | Modifier.FINAL));
         Set<String> seen = new TreeSet<>();
         for (Method method : HoleHouse.class.getDeclaredMethods()) {
@@ -58,7 +66,9 @@ public final class LanguageTest {
                 seen.add(told(method));
             }
         }
-        check.hold("the methods of the face: " + seen, seen.equals(FACE));
+        seen.add("HoleHouse()");
+        seen.add("static final int NONE = " + HoleHouse.NONE);
+        check.hold("the document's face " + promised() + " and the class's " + seen, seen.equals(promised()));
         for (Field field : HoleHouse.class.getDeclaredFields()) {
             boolean constant = field.getName().equals("NONE");
             check.hold("field " + field, constant == Modifier.isPublic(field.getModifiers()));
@@ -148,5 +158,17 @@ public final class LanguageTest {
             check.hold("made in a constructor: " + line.trim(),
                 !line.matches(".*\\bnew\\b.*") || !constructor.isEmpty());
         }
+    }
+
+    private static void methodsAreShort() throws IOException {
+        String head = "^( {4,8})(?! )[^\n;=]*?(\\w+)\\([^)]*\\) \\{\n";
+        Matcher methods = Pattern.compile("(?ms)" + head + ".*?^\\1\\}$").matcher(source());
+        int seen = 0;
+        while (methods.find()) {
+            seen++;
+            long lines = methods.group().lines().count();
+            check.hold(methods.group(2) + " has " + lines + " lines", lines <= LONGEST_METHOD);
+        }
+        check.hold("methods were found: " + seen, seen > promised().size());
     }
 }
